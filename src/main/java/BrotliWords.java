@@ -1258,7 +1258,7 @@ public final class BrotliWords {
 
     /** Finds the COPY and the WORD of a place of the TAPE. */
     private static final class Finder {
-        private static final int HASHES = 1024, COPY_LEAST = 4, COPY_MOST = 200;
+        private static final int HASHES = 1024, PAIRS = 256, COPY_LEAST = 4, COPY_MOST = 200;
 
         final int[] copyMade = new int[PACK_MOST];
         final int[] copyBack = new int[PACK_MOST];
@@ -1269,7 +1269,7 @@ public final class BrotliWords {
         private final Words words;
         private final int[] placeHead = new int[HASHES];
         private final int[] placeBefore = new int[PACK_MOST];
-        private final int[] coreHead = new int[256];
+        private final int[] coreHead = new int[PAIRS];
         private final int[] coreBefore = new int[WORD_ROOM * 6];
         private int known;
         private int size;
@@ -1288,9 +1288,9 @@ public final class BrotliWords {
                 for (int number = 0; number < words.manyOf(length); number++) {
                     for (int how = 0; how < 6; how++) {
                         int core = ((length - LEAST_WORD) * WORDS_MOST + number) * 6 + how;
-                        int first = words.coreByte(length, number, how, 0);
-                        coreBefore[core] = coreHead[first];
-                        coreHead[first] = core;
+                        int h = pairHash(words.coreByte(length, number, how, 0), words.coreByte(length, number, how, 1));
+                        coreBefore[core] = coreHead[h];
+                        coreHead[h] = core;
                     }
                 }
             }
@@ -1313,6 +1313,11 @@ public final class BrotliWords {
             if (tape.at(p) == BLANK) {
                 findWord(p, p + 1, true);
             }
+        }
+
+        /** Every core has two bytes at least, so the first two tell where to look for it. */
+        private static int pairHash(int first, int second) {
+            return 33 * first + second & PAIRS - 1;
         }
 
         private int hash(int p) {
@@ -1350,10 +1355,10 @@ public final class BrotliWords {
 
         /** Looks for words whose core begins at start; ahead: behind a blank at p. */
         private void findWord(int p, int start, boolean ahead) {
-            if (start >= size) {
+            if (start + 1 >= size) {
                 return;
             }
-            int core = coreHead[tape.at(start)];
+            int core = coreHead[pairHash(tape.at(start), tape.at(start + 1))];
             for (int k = 0; k < coreBefore.length && core >= 0; k++) {
                 int how = core % 6;
                 int length = LEAST_WORD + core / 6 / WORDS_MOST;
