@@ -26,11 +26,13 @@ public final class CodeEdgesTest {
         lengthsOfCommandsAndDistances();
         longestLength();
         orderOfCodes();
+        nothingStaysFromTheCodeBefore();
         mapWithoutRuns();
         runsOfEachSize();
         runBeyondTheMap();
         signsOfAMap();
         movedToTheFront();
+        nothingStaysFromTheMapBefore();
         mapsOfTwelve();
         Check.finish();
     }
@@ -420,6 +422,28 @@ public final class CodeEdgesTest {
         }
     }
 
+    /** Marks that an earlier CODE told, and that this one does not tell, have LENGTH 0. */
+    private static void nothingStaysFromTheCodeBefore() {
+        Bits row = marks(allMarks(ahead()), 1, 1);
+        TestRows.lone(row, TestRows.command(1, 0), 10);
+        BrotliWords x = new BrotliWords();
+        TestRows.opened(x, "marks 1 and 2 behind all marks", copyOf(row).plain("00 1110 1110 1 0 1").plain("0"), "" + (char) 0);
+        Check.due("LENGTH of distance 0", x.length(2, 0, 0), 2);
+        Check.due("LENGTH of distance 1", x.length(2, 0, 1), 1);
+        Check.due("LENGTH of distance 2", x.length(2, 0, 2), 2);
+        broken("a lone mark 0 behind all marks", copyOf(row).plain("00 00 00 00 00 1110").plain("00".repeat(13)), 14);
+        broken("no mark behind all marks", copyOf(row).plain("00").plain("00".repeat(18)), 13);
+        // The latest LENGTH is 8 at first again, and a 16 is not together with that of the CODE before.
+        row = marks(allMarks(ahead()), 2, 1600);
+        TestRows.lone(row, TestRows.command(1, 0), 10);
+        marks(allMarks(row), 1600, 1, 2, 3, 4, 5, 6, 8);
+        TestRows.opened(x, "a 16 behind a 16", row.plain("00"), "" + (char) 0);
+        for (int sign = 0; sign < 3; sign++) {
+            Check.due("LENGTH of distance " + sign, x.length(2, 0, sign), 8);
+        }
+        Check.due("LENGTH of distance 3", x.length(2, 0, 3), 1);
+    }
+
     /** A PART of one literal with so many KINDS of literals, up to its TREES of literals. */
     private static Bits aheadOfMap(int kinds) {
         Bits row = TestRows.howMany(TestRows.start().plain("1 0 00").number(0, 16), kinds);
@@ -553,6 +577,53 @@ public final class CodeEdgesTest {
         mapped("runs of places", row, 2, rows(times(1, 4), times(0, 60)));
     }
 
+    /** Numbers of earlier MAPS do not stay where there is none or where 0s are run over, nor their row moved. */
+    private static void nothingStaysFromTheMapBefore() {
+        for (int many = 1; many <= 3; many++) {
+            for (int way = 0; way < 3; way++) {
+                Bits row = TestRows.start();
+                for (int k = 0; k < many; k++) {
+                    row.plain("0 00").number(0, 16).plain("0").plain("0 0 0  00 0000  00");
+                    // A MAP of 1s, and one of distances moved to the front: 1, 0, 1, 0.
+                    TestRows.lone(TestRows.howMany(row, 2).plain("0"), 1, 1).plain("0");
+                    TestRows.lone(TestRows.howMany(row, 2).plain("0"), 1, 1).plain("1");
+                    TestRows.lone(row, 'a', 8);
+                    TestRows.lone(row, 'b', 8);
+                    TestRows.lone(row, TestRows.command(1, 0), 10);
+                    TestRows.lone(row, 0, 6);
+                    TestRows.lone(row, 0, 6);
+                }
+                row.plain("1 0 00").number(0, 16).plain("0 0 0  00 0000  00");
+                String name = "way " + way + " behind " + many;
+                int[] due = new int[64];
+                int trees = way == 0 ? 1 : 2;
+                if (way == 0) {
+                    row.plain("0");
+                } else if (way == 1) {
+                    // RUNS 6: a run of 64.
+                    TestRows.lone(TestRows.howMany(row, 2).plain("1").number(5, 4), 6, 3).number(0, 6).plain("0");
+                } else {
+                    // Moved to the front: 0s and a 1 at the end.
+                    TestRows.two(TestRows.howMany(row, 2).plain("0"), 0, 1, 1).plain("0".repeat(63)).plain("1 1");
+                    due[63] = 1;
+                }
+                row.plain("0");
+                for (int tree = 0; tree < trees; tree++) {
+                    TestRows.lone(row, 'y' + tree, 8);
+                }
+                BrotliWords x = new BrotliWords();
+                // The byte before is 'b', but for the first PART: CONTEXT 34.
+                TestRows.opened(x, name, behind(row), "b".repeat(many) + "y");
+                for (int i = 0; i < 64; i++) {
+                    Check.due(name + ": map(0, " + i + ")", x.map(0, i), due[i]);
+                }
+                for (int i = 0; i < 4; i++) {
+                    Check.due(name + ": map(1, " + i + ")", x.map(1, i), 0);
+                }
+            }
+        }
+    }
+
     /** Twelve KINDS and twelve TREES: a MAP of 768 and one of 48, and the last TREE's CODE. */
     private static void mapsOfTwelve() {
         Bits row = TestRows.start().plain("1 0 00").number(0, 16);
@@ -592,6 +663,8 @@ public final class CodeEdgesTest {
         Check.due("none behind it", x.length(2, 12, 63), -1);
         Check.due("the last TREE of literals", x.length(0, 11, 'l'), 0);
         Check.due("none behind it", x.length(0, 12, 'l'), -1);
+        Check.due("the KIND of commands before it", x.length(1, 10, 600), 0);
+        Check.due("the TREE of distances before it", x.length(2, 10, 63), 0);
         for (int what = 2; what <= 6; what++) {
             Check.due("part(0, " + what + ")", x.part(0, what), 12);
         }

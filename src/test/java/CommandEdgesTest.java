@@ -14,7 +14,9 @@ public final class CommandEdgesTest {
         copyThatReachesLength();
         contextOfNothing();
         contextFromEarlierParts();
+        contextsOfEachKind();
         distanceTreeByCopy();
+        copiesOfEachKind();
         signsOfTheRing();
         distanceNotAbove0();
         directSigns();
@@ -24,6 +26,7 @@ public final class CommandEdgesTest {
         mostOfOut();
         copyIntoItself();
         wordsBehindOut();
+        wordsThatDoNotFitBehindOut();
         Check.finish();
     }
 
@@ -314,6 +317,40 @@ public final class CommandEdgesTest {
         }
     }
 
+    /** Three KINDS: the MAP's number 64 times KIND and CONTEXT has TREE 1, those around it TREE 0. */
+    private static void contextsOfEachKind() {
+        for (int kind = 0; kind < 3; kind++) {
+            for (int context : new int[] {0, 1, 62, 63}) {
+                for (int asked = Math.max(context - 1, 0); asked <= Math.min(context + 1, 63); asked++) {
+                    Bits row = TestRows.raw(TestRows.start(), "" + (char) asked).plain("1 0 00").number(1, 16);
+                    TestRows.howMany(row, 3);
+                    // t leads to the KIND; the first literal is of KIND 0, COUNT 1 each.
+                    TestRows.lone(row, kind + 2, 3);
+                    TestRows.lone(row, 0, 5).number(0, 2);
+                    row.plain("0 0  00 0000").number(0, 6);
+                    TestRows.howMany(row, 3).plain("0");
+                    // Signs 0, 1, 2: 0, 10, 11. All of KIND 0 that is not asked for makes the byte that is asked for.
+                    row.number(1, 2).number(2, 2).number(0, 2).number(1, 2).number(2, 2);
+                    for (int i = 0; i < 192; i++) {
+                        row.plain(i == 64 * kind + context ? "10" : "0");
+                    }
+                    row.plain("0").plain("0");
+                    TestRows.lone(row, asked, 8);
+                    TestRows.lone(row, 'Y', 8);
+                    TestRows.lone(row, 'Z', 8);
+                    TestRows.lone(row, insertAlone(2), 10);
+                    TestRows.lone(row, 0, 6).number(0, 2);
+                    // MODE 0: CONTEXT is the byte before; the first literal is of KIND 0.
+                    boolean first = kind == 0 && asked == context;
+                    int before = first ? 'Y' % 64 : asked;
+                    boolean second = before == context;
+                    String due = "" + (char) asked + (first ? 'Y' : (char) asked) + (second ? 'Y' : (char) asked);
+                    TestRows.opened(new BrotliWords(), "KIND " + kind + ", CONTEXT " + context + ", asked " + asked, row, due);
+                }
+            }
+        }
+    }
+
     /** COPY 2, 3, 4, 5 and above have the MAP's numbers 0 .. 3. */
     private static void distanceTreeByCopy() {
         for (int copyCode = 0; copyCode < 24; copyCode++) {
@@ -339,6 +376,55 @@ public final class CommandEdgesTest {
             }
             BrotliWords x = TestRows.opened(new BrotliWords(), "TREE of COPY " + copy, row, due.toString());
             Check.due("map(1, " + place + ")", x.map(1, place), 3 - place);
+        }
+    }
+
+    /** Three KINDS of distances: the MAP's number 4 times KIND and COPY less 2 has TREE 1, all others TREE 0. */
+    private static void copiesOfEachKind() {
+        for (int kind = 0; kind < 3; kind++) {
+            for (int place = 0; place < 4; place++) {
+                for (int copy = 2; copy <= 9; copy++) {
+                    Bits row = TestRows.raw(TestRows.start(), "uvwxyz").plain("1 0 00").number(copy + 1, 16).plain("0 0");
+                    TestRows.howMany(row, 3);
+                    TestRows.lone(row, kind + 2, 3);
+                    TestRows.lone(row, 0, 5).number(0, 2);
+                    row.plain("00 0000  00  0");
+                    TestRows.howMany(row, 2).plain("0");
+                    TestRows.two(row, 0, 1, 1);
+                    for (int i = 0; i < 12; i++) {
+                        row.plain(i == 4 * kind + place ? "1" : "0");
+                    }
+                    row.plain("0");
+                    TestRows.lone(row, 'a', 8);
+                    // A COPY of 2 by KIND 0, then the one that is asked for by the KIND.
+                    boolean two = copy > 2;
+                    if (two) {
+                        TestRows.two(row, TestRows.command(0, 0), TestRows.command(0, copy - 2), 10);
+                    } else {
+                        TestRows.lone(row, TestRows.command(0, 0), 10);
+                    }
+                    // TREE 0: sign 0, the last; TREE 1: sign 3, the fourth last.
+                    TestRows.lone(row, 0, 6);
+                    TestRows.lone(row, 3, 6);
+                    row.plain(two ? "0" : "").plain(two ? "1" : "").number(0, 2);
+                    StringBuilder due = new StringBuilder("uvwxyz");
+                    // Sign 0 is DISTANCE 4; sign 3 the fourth last, 16 at first: then there is no such byte.
+                    boolean first = kind == 0 && place == 0;
+                    boolean second = place == Math.min(copy - 2, 3);
+                    String name = "KIND " + kind + ", place " + place + ", COPY " + copy;
+                    if (first || second) {
+                        BrotliWords x = new BrotliWords();
+                        Check.feedAll(x, row.toWholeByte().bytes());
+                        Check.due(name, x.open(), -20);
+                        Check.due(name + ": copies", x.part(1, 10), first ? 0 : 1);
+                        continue;
+                    }
+                    for (int i = 0; i < copy + 2; i++) {
+                        due.append(due.charAt(due.length() - 4));
+                    }
+                    TestRows.opened(new BrotliWords(), name, row, due.toString());
+                }
+            }
         }
     }
 
@@ -592,6 +678,32 @@ public final class CommandEdgesTest {
                         int read = row.size();
                         TestRows.opened(x, name, row.toWholeByte(), -18, read);
                         Check.due(name + ": words", x.part(0, 11), 0);
+                    }
+                }
+            }
+        }
+    }
+
+    /** RULE 8 of a word looks at what is left of LENGTH, whatever OUT has. */
+    private static void wordsThatDoNotFitBehindOut() {
+        for (int had = 1; had <= 9; had += 4) {
+            for (int insert = 0; insert < 3; insert++) {
+                for (int size = 3; size <= 4; size++) {
+                    BrotliWords x = new BrotliWords();
+                    Check.addWord(x, "word");
+                    String text = "0123456789".substring(0, had);
+                    Bits row = TestRows.raw(TestRows.start(x), text);
+                    TestRows.lastHead(row, insert + size);
+                    int distance = had + insert + 1;
+                    int n = 30 - Integer.numberOfLeadingZeros(distance + 3);
+                    TestRows.codes(row, TestRows.command(insert, 2), 16 + 2 * (n - 1) + (distance + 3 >> n & 1));
+                    row.number(distance + 3, n);
+                    String name = "a word of 4 where " + size + " are left, behind " + had + " and " + insert;
+                    if (size == 4) {
+                        TestRows.opened(x, name, row, text + "a".repeat(insert) + "word");
+                    } else {
+                        int read = row.size();
+                        TestRows.opened(x, name, row.toWholeByte(), -18, read);
                     }
                 }
             }

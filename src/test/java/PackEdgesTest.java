@@ -1,4 +1,8 @@
+import java.util.ArrayList;
 import java.util.Arrays;
+import java.util.Collections;
+import java.util.List;
+import java.util.Random;
 
 /** Promises 11 and 20 and section 5 of the document: each boundary of PACKING, one by one. */
 public final class PackEdgesTest {
@@ -11,15 +15,21 @@ public final class PackEdgesTest {
         oneByte();
         rawOfEachSize();
         copyOfFourAtLeast();
+        threeLikeBytesWhateverTheFourth();
         copyOf200AtMost();
         nearestOfLikeCopies();
         copyGoesOn();
         wordOfFourAtLeast();
         wordAtTheEnd();
+        wordsWithACommaOrABlank();
         leastLengthNumberChange();
+        wordsThatWent();
         moreOfCopyAndWord();
         costsThatAreAlike();
+        aWordThatCostsMore();
+        fewerLiteralsOrFewerWords();
         literalsAtTheEnd();
+        endBehindADistance();
         eachInsertCode();
         eachCopyCode();
         eachFarSign();
@@ -32,7 +42,11 @@ public final class PackEdgesTest {
         zerosInMarks();
         loneMark();
         marksAbove5();
+        marksAreHalved();
+        all256Signs();
         commandsThatAreThere();
+        fiveHundredCommands();
+        packsOneBehindTheOther();
         whatPackLeaves();
         Check.finish();
     }
@@ -163,6 +177,23 @@ public final class PackEdgesTest {
         }
     }
 
+    /** In one row: abc and each time another byte; four bytes never stand twice. */
+    private static void threeLikeBytesWhateverTheFourth() {
+        for (String three : new String[] {"abc", "aaa", "\u0001\u0002\u0003"}) {
+            StringBuilder b = new StringBuilder();
+            int inserts = 0;
+            for (int fourth = 4; fourth < 256; fourth++) {
+                if (three.indexOf(fourth) < 0) {
+                    b.append(three).append((char) fourth);
+                    inserts += 4;
+                }
+            }
+            BrotliWords x = packed(b.toString(), 1);
+            command("three like bytes", x, 0, inserts, 0, 0);
+            Check.due("three like bytes: commands", x.count(4), 1);
+        }
+    }
+
     private static void copyOf200AtMost() {
         for (int size : new int[] {199, 200, 201, 204, 400}) {
             String block = unlike(size);
@@ -258,6 +289,30 @@ public final class PackEdgesTest {
         Check.due("123456, ", x.count(4), 1);
     }
 
+    /** A comma alone, a blank behind another sign are no CHANGE; what comes behind is not taken. */
+    private static void wordsWithACommaOrABlank() {
+        String[] texts = {"word; 1234", "word,1234", "word ,1234", "word,  1234", "word  1234", "word, 1234", " word 1234", "  word1234"};
+        int[][] due = {{0, 0, 4}, {0, 0, 4}, {0, 6, 5}, {0, 18, 6}, {0, 6, 5}, {0, 18, 6}, {0, 12, 5}, {1, 12, 5}};
+        for (int level = 1; level <= 2; level++) {
+            for (int k = 0; k < texts.length; k++) {
+                BrotliWords x = packed(texts[k], level, "word");
+                command(texts[k], x, 0, due[k][0], 4, due[k][0] + 1 + due[k][1]);
+                // What the word makes is seen by the literals behind it.
+                command(texts[k], x, 1, texts[k].length() - due[k][0] - due[k][2], 0, 0);
+                opensTo(texts[k], x, texts[k]);
+            }
+        }
+        // A word of blanks: behind and ahead are alike, the least CHANGE is taken.
+        command("five blanks", packed("     ", 1, "    "), 0, 0, 4, 1 + 6);
+        command("four blanks", packed("    ", 1, "    "), 0, 0, 4, 1);
+        command("aaa and a blank", packed("aaa ", 1, "aaaa"), 0, 0, 4, 1 + 9);
+        command("a blank and aaa", packed(" aaa", 1, "aaaa"), 0, 0, 4, 1 + 15);
+        command("aa, a comma and a blank", packed("aa, ", 1, "aaaa"), 0, 0, 4, 1 + 23);
+        // ", , , " by a word of such signs: as it is, not as a shorter one with AROUND.
+        command("commas and blanks", packed(", , , ", 1, ", , , "), 0, 0, 6, 1);
+        command("commas and blanks, two more", packed(", , , , ", 1, ", , , "), 0, 0, 6, 1 + 18);
+    }
+
     private static void leastLengthNumberChange() {
         // "time " is "time" with CHANGE 6 and a word of five; the least LENGTH is taken.
         BrotliWords x = packed("time ", 1, "time ", "time");
@@ -286,6 +341,23 @@ public final class PackEdgesTest {
         x = packed("NUM_, ", 2, words);
         command("number 31", x, 0, 0, 4, 1 + 31 + (20 << 5));
         opensTo("number 31", x, "NUM_, ");
+    }
+
+    /** Words that clear() took are not found, nor those behind the last one. */
+    private static void wordsThatWent() {
+        BrotliWords x = packed("gone word", 1, "gone", "word");
+        Check.due("two words", x.command(0, 1), 4);
+        x.clear();
+        Check.feedAll(x, "gone word");
+        x.pack(1);
+        command("no words", x, 0, 9, 0, 0);
+        Check.addWord(x, "this");
+        Check.feedAll(x, "gone word");
+        x.pack(1);
+        command("another word", x, 0, 9, 0, 0);
+        Check.feedAll(x, "gone this");
+        x.pack(1);
+        command("the word that is there", x, 0, 4, 4, 4 + 1 + 12);
     }
 
     private static void moreOfCopyAndWord() {
@@ -327,6 +399,47 @@ public final class PackEdgesTest {
         command("the longest", x, 0, 15, 4, 15);
     }
 
+    /** LEVEL 2 takes a literal, though a word or a COPY is there, if that costs less. */
+    private static void aWordThatCostsMore() {
+        // The word of four and six literals are 78, 'a' and the word of nine 33.
+        BrotliWords x = packed("abcdefghij", 2, "abcd", "bcdefghij");
+        command("a literal and a word", x, 0, 1, 9, 1 + 1);
+        Check.due("a literal and a word", x.count(4), 1);
+        x = packed("abcdefghij", 1, "abcd", "bcdefghij");
+        command("LEVEL 1: the word at once", x, 0, 0, 4, 1);
+        // Two literals and two words are 66, the word of eight and five literals 69.
+        x = packed("abcdefghijklm", 2, "abcdefgh", "cdef", "ghijklm");
+        command("66 or 69", x, 0, 2, 4, 2 + 1);
+        command("66 or 69", x, 1, 0, 7, 6 + 1);
+        Check.due("66 or 69", x.count(4), 2);
+        // Two literals, a word of twelve and three literals are 69, three words 72.
+        x = packed("abcdefghijkl, xyz", 2, "abcdefg", "cdefghijkl", "hijk", "l, xyz");
+        command("69 or 72", x, 0, 2, 10, 2 + 1 + 18);
+        command("69 or 72", x, 1, 3, 0, 0);
+    }
+
+    /** COSTS of 9 and 24: three words more and eight literals fewer are alike; what begins with a word is taken. */
+    private static void fewerLiteralsOrFewerWords() {
+        // Five words are 120; two words and eight literals, the first of which is ahead of them, are 120.
+        String text = "ghijklmnopqrstuvwxyz0123456";
+        BrotliWords x = packed(text, 2, "3456", "nopq", "z012", "ghijklm", "jklmnopqr", "qrstuvwxy", "vwxyz01234");
+        int[][] due = {{0, 7, 1}, {0, 4, 7 + 1 + 1}, {0, 9, 11 + 1 + 1 + (3 << 1)}, {0, 4, 19 + 1 + 2}, {0, 4, 23 + 1}};
+        Check.due("five words", x.count(4), due.length);
+        for (int i = 0; i < due.length; i++) {
+            command("five words", x, i, due[i]);
+        }
+        opensTo("five words", x, text);
+        // Three words and ten literals are 162; two literals, ahead of them, and six words are 162.
+        text = "abcdefghijklmnopqrstuvwxyz0123456789!?#$";
+        x = packed(text, 2, "abcdefghij", "nopqrstuvw", "0123456789", "cdef", "ghijklmno", "pqrs", "tuvwxyz01", "2345", "6789!?#$");
+        due = new int[][] {{0, 10, 1}, {3, 10, 13 + 1 + 1}, {3, 10, 26 + 1 + 2}, {4, 0, 0}};
+        Check.due("three words", x.count(4), due.length);
+        for (int i = 0; i < due.length; i++) {
+            command("three words", x, i, due[i]);
+        }
+        opensTo("three words", x, text);
+    }
+
     private static void literalsAtTheEnd() {
         BrotliWords x = packed("abcdabcd", 1);
         Check.due("none at the end", x.count(4), 1);
@@ -335,6 +448,19 @@ public final class PackEdgesTest {
         command("one at the end", x, 1, 1, 0, 0, 2 * 64 + 8);
         x = packed("abcdabcdXYZ", 1);
         command("three at the end", x, 1, 3, 0, 0, 2 * 64 + 8 * 3);
+    }
+
+    /** The command at the end tells no distance: its CODE has the one sign that was told. */
+    private static void endBehindADistance() {
+        BrotliWords x = packed("ababababX", 1);
+        command("a COPY at 2", x, 0, 2, 6, 2, 2 * 64 + 8 * 2 + 4);
+        command("X at the end", x, 1, 1, 0, 0, 2 * 64 + 8);
+        Bits row = TestRows.lastHead(TestRows.start(), 9);
+        // X, a, b once each: b is 0, X 10, a 11, by number X, a, b: X and a are joined first.
+        row.number(1, 2).number(2, 2).number('b', 8).number('X', 8).number('a', 8);
+        TestRows.two(row, 2 * 64 + 8, 2 * 64 + 8 * 2 + 4, 10);
+        TestRows.lone(row, 16, 6);
+        same("a distance and an end", x, row.plain("1").plain("11 0").plain("1").plain("0").plain("10"));
     }
 
     /** INSERT of each BASE and one less, at the end: cells 2, 4 and 7 (COPY code 0). */
@@ -465,6 +591,13 @@ public final class PackEdgesTest {
             command("INSERT " + one[0] + ", COPY 12 by sign 0", x, 0, one[0], 12, 4, 64 * cell + one[1] % 64 + 1);
             opensTo("INSERT " + one[0] + ", COPY 12 by sign 0", x, text);
         }
+        // The last sign of cell 1 and the first one of cell 2 that can be: 127 and 130.
+        String most = unlike(5) + "abcd" + "abcd".repeat(16) + "ab";
+        BrotliWords last = packed(most, 1);
+        command("sign 127", last, 0, 9, 66, 4, 127);
+        opensTo("sign 127", last, most);
+        last = packed("word", 1, "word");
+        command("sign 130", last, 0, 0, 4, 1, 130);
         // At the end sign 0 is no matter: cell 2.
         command("at the end", packed("abcd", 1), 0, 4, 0, 0, 2 * 64 + 8 * 4);
         // Without literals ahead of it: "abcdabcd" and 201 more.
@@ -635,6 +768,71 @@ public final class PackEdgesTest {
         opensTo("marks above 5", x, b.toString());
     }
 
+    private static String shuffled(int seed) {
+        Random random = new Random(seed);
+        int signs = 5 + random.nextInt(120);
+        int[] sign = new int[signs];
+        int at = random.nextInt(20);
+        for (int k = 0; k < signs; k++) {
+            sign[k] = Math.min(at, 255);
+            at += 1 + (random.nextInt(4) == 0 ? random.nextInt(12) : 0);
+        }
+        List<Character> all = new ArrayList<>();
+        for (int k = 0; k < signs; k++) {
+            int many = 1 << Math.min(Math.min(random.nextInt(10), random.nextInt(10)), 8);
+            many = random.nextInt(3) > 0 ? 1 + random.nextInt(3) : many;
+            all.addAll(Collections.nCopies(many, (char) sign[k]));
+        }
+        Collections.shuffle(all, random);
+        StringBuilder b = new StringBuilder();
+        for (char c : all) {
+            b.append(c);
+        }
+        b.setLength(Math.min(b.length(), 2000));
+        return b.toString();
+    }
+
+    /**
+     * In the first row the marks 0, 3, 4, 5, 6, 7, 8, 9, 17 of the literals are 13, 3, 4, 4, 3, 3, 39, 14, 12
+     * times there: one would have 6. Halved, and 1, they are 7, 2, 3, 3, 2, 2, 20, 8, 7: LENGTHS 3, 5, 4, 4, 5,
+     * 4, 2, 2, 3. Others are judged by SlowPack.
+     */
+    private static void marksAreHalved() {
+        BrotliWords x = packed(shuffled(37), 1);
+        StringBuilder bits = new StringBuilder();
+        for (int i = 0; i < 20; i++) {
+            bits.append(new Bits().number(x.out(i), 8).row);
+        }
+        String told = "00" + "00 00 1111 10 01 10 01 1111 00 10 110 110".replace(" ", "");
+        Check.due("marks that are halved", bits.substring(50, 50 + told.length()).equals(told) ? 1 : 0, 1);
+        for (int seed : new int[] {37, 68, 92, 554, 2868, 2885, 2893, 2900, 2922, 2939, 2954, 2958, 2970, 2971, 2985, 2994}) {
+            String text = shuffled(seed);
+            x = packed(text, 1);
+            same("marks that are halved, " + seed, x, new SlowPack(new SlowWords(), text, 1).bits);
+            opensTo("marks that are halved, " + seed, x, text);
+        }
+    }
+
+    /** Each byte once has LENGTH 8: a lone mark. Then some of them more often. */
+    private static void all256Signs() {
+        StringBuilder text = new StringBuilder();
+        StringBuilder bits = new StringBuilder();
+        for (int b = 0; b < 256; b++) {
+            text.append((char) b);
+            for (int k = 7; k >= 0; k--) {
+                bits.append(b >> k & 1);
+            }
+        }
+        String told = "00" + "00".repeat(10) + "1110" + "00".repeat(7);
+        same("256 signs", packed(text.toString(), 1), literals(256, told).plain(bits.toString()));
+        for (int k = 0; k < 400; k++) {
+            text.append((char) (k * 31 % 100 + k % 3));
+        }
+        BrotliWords x = packed(text.toString(), 2);
+        same("256 signs, some more often", x, new SlowPack(new SlowWords(), text.toString(), 2).bits);
+        opensTo("256 signs, some more often", x, text.toString());
+    }
+
     private static void commandsThatAreThere() {
         BrotliWords x = packed("abcdabcdX", 1);
         for (int i : new int[] {-1, 2, 3, MIN, MAX}) {
@@ -661,6 +859,75 @@ public final class PackEdgesTest {
         SlowPack due = new SlowPack(new SlowWords(), b.toString(), 1);
         Check.due("many commands", x.count(4), due.commands.size());
         same("many commands", x, due.bits);
+    }
+
+    /** The most commands: 500 words and copies of four bytes each, no two of which stand twice side by side. */
+    private static void fiveHundredCommands() {
+        BrotliWords x = new BrotliWords();
+        String[] words = new String[32];
+        for (int i = 0; i < 32; i++) {
+            words[i] = "" + (char) (33 + i) + (char) (65 + i) + (char) (97 + i % 26) + (char) (129 + i);
+            Check.addWord(x, words[i]);
+        }
+        StringBuilder text = new StringBuilder();
+        boolean[] seen = new boolean[1024];
+        int before = 0;
+        text.append(words[0]);
+        for (int k = 1; k < 500; k++) {
+            // Always the greatest that has not yet come behind this one: so the row goes on for all pairs.
+            int next = 31;
+            while (seen[32 * before + next]) {
+                next--;
+            }
+            seen[32 * before + next] = true;
+            text.append(words[next]);
+            before = next;
+        }
+        Check.feedAll(x, text.toString());
+        x.pack(1);
+        Check.due("500 commands", x.count(4), 500);
+        command("the last of 500", x, 499, 0, 4);
+        Check.due("none behind", x.command(500, 0), BAD);
+        int size = x.count(2);
+        Check.due("pass()", x.pass(), size);
+        Check.due("open()", x.open(), 2000);
+        Check.due("commands", x.part(0, 9), 500);
+        Check.due("copies and words", x.part(0, 10) + x.part(0, 11), 500);
+        Check.due("the last byte", x.out(1999), text.charAt(1999));
+        // Four literals at the end instead of the last one: 499 and one more.
+        text.setLength(1996);
+        Check.feedAll(x, text + "0000");
+        x.pack(1);
+        Check.due("499 commands and the end", x.count(4), 500);
+        command("the end", x, 499, 4, 0, 0);
+    }
+
+    /** What an earlier pack() saw is no matter: as on a new object. */
+    private static void packsOneBehindTheOther() {
+        String[] texts = {"", "a", "word", "0123456789abcdY...", "abcdZabcdY", "aaaaaaaaaaaaaaaaaaaaaaaa", unlike(120),
+            unlike(60) + "!" + unlike(60) + "?", "Words, words word, of words: word, of WORD", "abcdeabcdeX", "ddcdabcd",
+            "zzzzzzzzzz word zzzzzzzzzz", shuffled(11).substring(0, 60), "abcd1bcde2abcde"};
+        for (int level = 1; level <= 2; level++) {
+            for (String first : texts) {
+                for (String second : texts) {
+                    BrotliWords x = packed(first, level, "word", "words");
+                    Check.feedAll(x, second);
+                    x.pack(level);
+                    BrotliWords fresh = packed(second, level, "word", "words");
+                    String name = "pack(" + level + ") of " + second + " behind " + first;
+                    Check.due(name, x.count(2), fresh.count(2));
+                    for (int i = 0; i < fresh.count(2); i++) {
+                        Check.due(name + ": out(" + i + ")", x.out(i), fresh.out(i));
+                    }
+                    Check.due(name + ": commands", x.count(4), fresh.count(4));
+                    for (int i = 0; i < fresh.count(4); i++) {
+                        for (int what = 0; what < 4; what++) {
+                            Check.due(name + ": command(" + i + ", " + what + ")", x.command(i, what), fresh.command(i, what));
+                        }
+                    }
+                }
+            }
+        }
     }
 
     private static void whatPackLeaves() {

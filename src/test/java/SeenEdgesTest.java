@@ -27,6 +27,7 @@ public final class SeenEdgesTest {
         lengthTakesSignsThatAreThere();
         codesReadToTheirEnd();
         latestPartWithCodes();
+        loneSignsBehindOthers();
         otherCallsLeaveWhatIsSeen();
         countTakes0To4();
         Check.finish();
@@ -148,6 +149,24 @@ public final class SeenEdgesTest {
         Check.due("part(60, 9)", x.part(60, 9), BAD);
         Check.due("ring(0) of the 61st", x.ring(0), 1);
         Check.due("length() of the 61st", x.length(0, 0, 'a'), 0);
+        theSixtieth();
+    }
+
+    /** Of the 60th PART all is told, its commands as well. */
+    private static void theSixtieth() {
+        Bits row = TestRows.start().plain("0 11 0 00").toWholeByte();
+        for (int i = 1; i < 58; i++) {
+            row.plain("0 11 0 00").toWholeByte();
+        }
+        TestRows.raw(row, "rw");
+        TestRows.codes(TestRows.lastHead(row, 6), TestRows.command(0, 1), 16).plain("0 1");
+        BrotliWords x = new BrotliWords();
+        TestRows.opened(x, "60 PARTS", row, "rwwwwwww");
+        int[] due = {3, 6, 1, 1, 1, 1, 1, 0, 0, 2, 2, 0};
+        for (int what = 0; what < 12; what++) {
+            Check.due("part(59, " + what + ")", x.part(59, what), due[what]);
+        }
+        Check.due("count(3)", x.count(3), 60);
     }
 
     private static void whatOfAPart() {
@@ -487,6 +506,30 @@ public final class SeenEdgesTest {
         Check.due("one KIND of commands", x.length(1, 1, 2), BAD);
         Check.due("64 distances", x.length(2, 0, 64), BAD);
         Check.due("the last of them", x.length(2, 0, 63), 0);
+    }
+
+    /** A lone sign has LENGTH 0, whatever the same sign had in the PARTS before. */
+    private static void loneSignsBehindOthers() {
+        for (int many = 1; many <= 3; many++) {
+            Bits row = TestRows.start();
+            StringBuilder due = new StringBuilder();
+            for (int k = 0; k < many; k++) {
+                TestRows.head(row, 1);
+                TestRows.two(row, 'a', 'b', 8);
+                TestRows.two(row, TestRows.command(1, 0), 703, 10);
+                TestRows.two(row, 0, 1, 6).plain("0 0");
+                due.append('a');
+            }
+            TestRows.codes(TestRows.lastHead(row, 1), TestRows.command(1, 0), 0);
+            BrotliWords x = new BrotliWords();
+            TestRows.opened(x, "a lone sign behind " + many, row, due + "a");
+            Check.due("the literal", x.length(0, 0, 'a'), 0);
+            Check.due("one of the PARTS before", x.length(0, 0, 'b'), 0);
+            Check.due("the command", x.length(1, 0, TestRows.command(1, 0)), 0);
+            Check.due("one of the PARTS before", x.length(1, 0, 703), 0);
+            Check.due("the distance", x.length(2, 0, 0), 0);
+            Check.due("one of the PARTS before", x.length(2, 0, 1), 0);
+        }
     }
 
     private static void otherCallsLeaveWhatIsSeen() {
