@@ -1865,7 +1865,7 @@ public final class BrotliWords {
             int sum = 0;
             for (int k = 0; k < MARKS && sum < WHOLE_MARKS; k++) {
                 int mark = MARK_ORDER[k];
-                int n = lengths[mark];
+                int n = Math.min(lengths[mark], LONGEST_MARK);
                 if (used == 1 && mark == order[0]) {
                     n = 1;
                 }

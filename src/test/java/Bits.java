@@ -31,6 +31,10 @@ final class Bits {
         return this;
     }
 
+    Bits copy() {
+        return new Bits().plain(row.toString());
+    }
+
     int size() {
         return row.length();
     }

@@ -37,10 +37,6 @@ public final class CodeEdgesTest {
         Check.finish();
     }
 
-    private static Bits copyOf(Bits row) {
-        return new Bits().plain(row.row.toString());
-    }
-
     /** A PART of one literal, up to the CODE of literals. */
     private static Bits ahead() {
         return TestRows.lastHead(TestRows.start(), 1);
@@ -147,7 +143,7 @@ public final class CodeEdgesTest {
             row.plain(one[1] == 0 ? "0" : "1").number(one[1] - 1, one[1] == 0 ? 0 : 4);
             String name = one[0] + " TREES, RUNS " + one[1];
             for (int sign = a - 1; sign < 1 << one[2]; sign++) {
-                Bits more = TestRows.lone(copyOf(row), sign, one[2]);
+                Bits more = TestRows.lone(row.copy(), sign, one[2]);
                 if (sign >= a) {
                     broken(name + ", sign " + sign, more, 12);
                 } else {
@@ -328,22 +324,22 @@ public final class CodeEdgesTest {
     private static void lengthsUpToTheLastSign() {
         Bits row = marks(allMarks(ahead()), zeros254());
         // 82 + 1 + 82 + 1 + 82 + 6 = 254.
-        told("signs 254 and 255", marks(copyOf(row), 1, 1), "1", 255, rows(times(0, 254), times(1, 2)));
-        broken("sign 255 alone, a half of all", marks(copyOf(row), 0, 1), 14);
-        broken("no sign at all", marks(copyOf(row), 0, 0), 14);
-        broken("the last two, three quarters", marks(copyOf(row), 1, 2), 14);
+        told("signs 254 and 255", marks(row.copy(), 1, 1), "1", 255, rows(times(0, 254), times(1, 2)));
+        broken("sign 255 alone, a half of all", marks(row.copy(), 0, 1), 14);
+        broken("no sign at all", marks(row.copy(), 0, 0), 14);
+        broken("the last two, three quarters", marks(row.copy(), 1, 2), 14);
     }
 
     private static void moreLengthsThanSigns() {
         Bits row = marks(allMarks(ahead()), zeros254());
-        broken("three 0s where two are left", marks(copyOf(row), 1700), 14);
-        broken("three LENGTHS where two are left", marks(copyOf(row), 1600), 14);
+        broken("three 0s where two are left", marks(row.copy(), 1700), 14);
+        broken("three LENGTHS where two are left", marks(row.copy(), 1600), 14);
         // Of a CODE of four signs (two KINDS): four 0s are all, five too many; 16 at first 8.
         for (int mark : new int[] {1700, 1701, 1702, 1707, 1600, 1601, 1602, 1603}) {
             row = allMarks(TestRows.start().plain("1 0 00").number(0, 16).plain("1 000"));
             marks(row, mark);
             if (mark == 1700 || mark == 1600) {
-                int read = marks(copyOf(row), 0).size();
+                int read = marks(row.copy(), 0).size();
                 row.plain("0000").toWholeByte();
                 TestRows.opened("four signs, " + mark + " and a 0", row, -24, read);
             } else {
@@ -363,7 +359,7 @@ public final class CodeEdgesTest {
         for (int k = 664 + 18; k < 702; k++) {
             marks(row, 0);
         }
-        broken("three LENGTHS where two commands are left", marks(copyOf(row), 1600), 14);
+        broken("three LENGTHS where two commands are left", marks(row.copy(), 1600), 14);
         marks(row, 1, 1);
         TestRows.lone(row, 63, 6);
         // The command 702: INSERT code 23, COPY code 22.
@@ -383,7 +379,7 @@ public final class CodeEdgesTest {
         for (int k = 498; k < 518; k++) {
             marks(row, 0);
         }
-        broken("three 0s where two distances are left", marks(copyOf(row), 1700), 14);
+        broken("three 0s where two distances are left", marks(row.copy(), 1700), 14);
         marks(row, 1, 1);
         x = new BrotliWords();
         TestRows.opened(x, "distances 518 and 519", row, "a");
@@ -427,12 +423,12 @@ public final class CodeEdgesTest {
         Bits row = marks(allMarks(ahead()), 1, 1);
         TestRows.lone(row, TestRows.command(1, 0), 10);
         BrotliWords x = new BrotliWords();
-        TestRows.opened(x, "marks 1 and 2 behind all marks", copyOf(row).plain("00 1110 1110 1 0 1").plain("0"), "" + (char) 0);
+        TestRows.opened(x, "marks 1 and 2 behind all marks", row.copy().plain("00 1110 1110 1 0 1").plain("0"), "" + (char) 0);
         Check.due("LENGTH of distance 0", x.length(2, 0, 0), 2);
         Check.due("LENGTH of distance 1", x.length(2, 0, 1), 1);
         Check.due("LENGTH of distance 2", x.length(2, 0, 2), 2);
-        broken("a lone mark 0 behind all marks", copyOf(row).plain("00 00 00 00 00 1110").plain("00".repeat(13)), 14);
-        broken("no mark behind all marks", copyOf(row).plain("00").plain("00".repeat(18)), 13);
+        broken("a lone mark 0 behind all marks", row.copy().plain("00 00 00 00 00 1110").plain("00".repeat(13)), 14);
+        broken("no mark behind all marks", row.copy().plain("00").plain("00".repeat(18)), 13);
         // The latest LENGTH is 8 at first again, and a 16 is not together with that of the CODE before.
         row = marks(allMarks(ahead()), 2, 1600);
         TestRows.lone(row, TestRows.command(1, 0), 10);
@@ -526,8 +522,8 @@ public final class CodeEdgesTest {
         Bits row = aheadOfMap(1).plain("0");
         TestRows.howMany(row, 2).plain("1").number(1, 4);
         TestRows.two(row, 2, 3, 2);
-        broken("a run of 5 of 4", copyOf(row).plain("0").number(1, 2), 15);
-        broken("a run of 4 of 3", copyOf(row).plain("1 0").number(0, 2), 15);
+        broken("a run of 5 of 4", row.copy().plain("0").number(1, 2), 15);
+        broken("a run of 4 of 3", row.copy().plain("1 0").number(0, 2), 15);
         row.plain("0").number(0, 2).plain("0");
         TestRows.lone(row, 'a', 8);
         TestRows.lone(row, TestRows.command(1, 0), 10);
@@ -584,9 +580,9 @@ public final class CodeEdgesTest {
                 Bits row = TestRows.start();
                 for (int k = 0; k < many; k++) {
                     row.plain("0 00").number(0, 16).plain("0").plain("0 0 0  00 0000  00");
-                    // A MAP of 1s, and one of distances moved to the front: 1, 0, 1, 0.
+                    // A MAP of 1s, and one of distances moved to the front, which leaves 1 there: 1, 0, 0, 0 are 1s.
                     TestRows.lone(TestRows.howMany(row, 2).plain("0"), 1, 1).plain("0");
-                    TestRows.lone(TestRows.howMany(row, 2).plain("0"), 1, 1).plain("1");
+                    TestRows.two(TestRows.howMany(row, 2).plain("0"), 0, 1, 1).plain("1 0 0 0 1");
                     TestRows.lone(row, 'a', 8);
                     TestRows.lone(row, 'b', 8);
                     TestRows.lone(row, TestRows.command(1, 0), 10);

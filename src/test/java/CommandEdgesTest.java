@@ -30,10 +30,6 @@ public final class CommandEdgesTest {
         Check.finish();
     }
 
-    private static Bits copyOf(Bits row) {
-        return new Bits().plain(row.row.toString());
-    }
-
     private static Bits insert(Bits row, int insert) {
         int code = TestRows.codeOf(SlowOpen.INSERT, insert);
         return row.number(insert - SlowOpen.INSERT[code][0], SlowOpen.INSERT[code][1]);
@@ -629,9 +625,8 @@ public final class CommandEdgesTest {
                     due.append(due.charAt(due.length() - distance));
                 }
                 TestRows.lastHead(row, due.length() - had);
-                int n = 30 - Integer.numberOfLeadingZeros(distance + 3);
-                TestRows.codes(row, TestRows.command(0, 2), 16 + 2 * (n - 1) + (distance + 3 >> n & 1));
-                row.number(distance + 3, n);
+                TestRows.codes(row, TestRows.command(0, 2), TestRows.farSign(distance));
+                row.number(distance + 3, TestRows.farBits(distance));
                 String name = "DISTANCE " + distance + " of " + had;
                 TestRows.opened(x, name, row, due.toString());
                 int part = had > 0 ? 1 : 0;
@@ -666,10 +661,9 @@ public final class CommandEdgesTest {
                     Check.addWord(x, word);
                     Bits row = TestRows.lastHead(TestRows.start(x), size);
                     int distance = change + 1;
-                    int n = 30 - Integer.numberOfLeadingZeros(distance + 3);
                     int code = TestRows.codeOf(SlowOpen.COPY, length);
-                    TestRows.codes(row, TestRows.command(0, code), 16 + 2 * (n - 1) + (distance + 3 >> n & 1));
-                    row.number(length - SlowOpen.COPY[code][0], SlowOpen.COPY[code][1]).number(distance + 3, n);
+                    TestRows.codes(row, TestRows.command(0, code), TestRows.farSign(distance));
+                    row.number(length - SlowOpen.COPY[code][0], SlowOpen.COPY[code][1]).number(distance + 3, TestRows.farBits(distance));
                     String name = word + ", CHANGE " + change + " of " + size;
                     if (size == made.length()) {
                         TestRows.opened(x, name, row, made);
@@ -695,9 +689,8 @@ public final class CommandEdgesTest {
                     Bits row = TestRows.raw(TestRows.start(x), text);
                     TestRows.lastHead(row, insert + size);
                     int distance = had + insert + 1;
-                    int n = 30 - Integer.numberOfLeadingZeros(distance + 3);
-                    TestRows.codes(row, TestRows.command(insert, 2), 16 + 2 * (n - 1) + (distance + 3 >> n & 1));
-                    row.number(distance + 3, n);
+                    TestRows.codes(row, TestRows.command(insert, 2), TestRows.farSign(distance));
+                    row.number(distance + 3, TestRows.farBits(distance));
                     String name = "a word of 4 where " + size + " are left, behind " + had + " and " + insert;
                     if (size == 4) {
                         TestRows.opened(x, name, row, text + "a".repeat(insert) + "word");

@@ -24,10 +24,6 @@ public final class FormEdgesTest {
         Check.finish();
     }
 
-    private static Bits copyOf(Bits row) {
-        return new Bits().plain(row.row.toString());
-    }
-
     private static void nothingAndTooShort() {
         TestRows.opened("nothing", new Bits(), -11, 0);
         TestRows.opened("a byte", new Bits().number(40293 & 255, 8), -11, 8);
@@ -71,9 +67,8 @@ public final class FormEdgesTest {
             for (int distance = most - 1; distance <= most + 1; distance++) {
                 Bits row = TestRows.manyZ(span(span), 2990);
                 TestRows.lastHead(row, 4);
-                int n = 30 - Integer.numberOfLeadingZeros(distance + 3);
-                TestRows.codes(row, TestRows.command(0, 2), 16 + 2 * (n - 1) + (distance + 3 >> n & 1));
-                row.number(distance + 3, n);
+                TestRows.codes(row, TestRows.command(0, 2), TestRows.farSign(distance));
+                row.number(distance + 3, TestRows.farBits(distance));
                 String name = "SPAN " + span + ", DISTANCE " + distance;
                 if (distance <= most) {
                     row.toWholeByte();
@@ -240,19 +235,19 @@ public final class FormEdgesTest {
             String name = "behind " + had;
             Bits whole = had == 1 ? TestRows.raw(TestRows.start(), "z") : TestRows.manyZ(TestRows.start(), had);
             int left = 3000 - had;
-            Bits row = copyOf(whole).plain("0 00").number(left, 16);
+            Bits row = whole.copy().plain("0 00").number(left, 16);
             BrotliWords x = TestRows.opened(name + " one too many", row, -27, row.size());
             Check.due(name + ": PARTS", x.count(3), had == 1 ? 1 : 2);
-            row = copyOf(whole).plain("1 0 00").number(left, 16);
+            row = whole.copy().plain("1 0 00").number(left, 16);
             TestRows.opened(name + " one too many, LAST", row, -27, row.size());
             if (left > 0) {
-                row = TestRows.head(copyOf(whole), left);
+                row = TestRows.head(whole.copy(), left);
                 int code = TestRows.codeOf(SlowOpen.INSERT, left);
                 TestRows.codes(row, TestRows.command(code, 0), 0);
                 row.number(left - SlowOpen.INSERT[code][0], SlowOpen.INSERT[code][1]).plain("11");
                 TestRows.opened(new BrotliWords(), name + " just so many", row, "z".repeat(had) + "a".repeat(left));
             } else {
-                TestRows.opened(new BrotliWords(), name + " none", copyOf(whole).plain("11"), "z".repeat(3000));
+                TestRows.opened(new BrotliWords(), name + " none", whole.copy().plain("11"), "z".repeat(3000));
             }
         }
     }
@@ -309,7 +304,7 @@ public final class FormEdgesTest {
                     continue;
                 }
                 for (int count = 25; count <= 26; count++) {
-                    Bits more = TestRows.lone(copyOf(row), count, 5);
+                    Bits more = TestRows.lone(row.copy(), count, 5);
                     int end = more.size();
                     more.toWholeByte();
                     TestRows.opened(name + ", COUNT " + count, more, count == 26 ? -22 : -11, count == 26 ? end : more.size());

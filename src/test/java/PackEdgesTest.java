@@ -379,6 +379,10 @@ public final class PackEdgesTest {
         command("a COPY or a literal", x, 1, 1, 0);
         Check.due("a COPY or a literal", x.count(4), 2);
         opensTo("a COPY or a literal", x, text);
+        // The same with a literal behind it: 42 each.
+        x = packed(text + "X", 2);
+        command("a COPY or a literal, and one more", x, 0, 10, 4, 10);
+        command("a COPY or a literal, and one more", x, 1, 2, 0);
         // The same with words.
         x = packed("abcde", 2, "abcd", "bcde");
         command("a WORD or a literal", x, 0, 0, 4, 1);
@@ -592,10 +596,12 @@ public final class PackEdgesTest {
             opensTo("INSERT " + one[0] + ", COPY 12 by sign 0", x, text);
         }
         // The last sign of cell 1 and the first one of cell 2 that can be: 127 and 130.
-        String most = unlike(5) + "abcd" + "abcd".repeat(16) + "ab";
+        String most = unlike(5) + "abcd" + "abcd".repeat(16) + "ab" + "zzzzzz";
         BrotliWords last = packed(most, 1);
         command("sign 127", last, 0, 9, 66, 4, 127);
+        command("sign 127", last, 1, 1, 5, 1);
         opensTo("sign 127", last, most);
+        Check.due("a lone distance is told, that of 1", last.length(2, 0, 16), 0);
         last = packed("word", 1, "word");
         command("sign 130", last, 0, 0, 4, 1, 130);
         // At the end sign 0 is no matter: cell 2.

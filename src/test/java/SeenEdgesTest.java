@@ -33,10 +33,6 @@ public final class SeenEdgesTest {
         Check.finish();
     }
 
-    private static Bits copyOf(Bits row) {
-        return new Bits().plain(row.row.toString());
-    }
-
     /**
      * Opens a row that ends just behind the bits of the second PART: a first PART, 'a', shifts
      * them so that they end with a byte.
@@ -486,7 +482,7 @@ public final class SeenEdgesTest {
         TestRows.lone(row, TestRows.command(1, 0), 10);
         TestRows.two(row, 1, 2, 10);
         TestRows.two(row, 113, 16, 7);
-        Bits one = copyOf(row);
+        Bits one = row.copy();
         TestRows.raw(row, "raw").plain("0 11 0 00").toWholeByte().plain("11");
         BrotliWords x = new BrotliWords();
         TestRows.opened(x, "two KINDS", row, "kraw");

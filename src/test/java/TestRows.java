@@ -86,6 +86,16 @@ final class TestRows {
         return code;
     }
 
+    /** The sign above 15 of a DISTANCE, without POSTFIX and DIRECT: its lowest n bits and 3 are told behind it. */
+    static int farSign(int distance) {
+        int n = farBits(distance);
+        return 16 + 2 * (n - 1) + (distance + 3 >> n & 1);
+    }
+
+    static int farBits(int distance) {
+        return 30 - Integer.numberOfLeadingZeros(distance + 3);
+    }
+
     /**
      * Behind it the row has so many bits above whole bytes: a CODED PART of one byte 'a', whose
      * COPY is not made and has as many bits more as it takes.

@@ -313,10 +313,7 @@ public final class WordsEdgesTest {
                 int change = y / power;
                 int due = number >= many ? -20 : change > 23 ? -21 : 0;
                 Bits row = TestRows.lastHead(TestRows.start(x), due < 0 ? 9 : SlowWords.changed("word", change).length());
-                int sign = farSign(y + 1);
-                TestRows.codes(row, TestRows.command(0, 2), sign);
-                int n = 1 + (sign - 16) / 2;
-                row.number(y + 4, n);
+                TestRows.codes(row, TestRows.command(0, 2), TestRows.farSign(y + 1)).number(y + 4, TestRows.farBits(y + 1));
                 String name = many + " words, y " + y;
                 if (due < 0) {
                     TestRows.opened(x, name, row, due, row.size());
@@ -326,11 +323,5 @@ public final class WordsEdgesTest {
                 TestRows.opened(x, name, row, SlowWords.changed(word, change));
             }
         }
-    }
-
-    /** The sign above 15 of a DISTANCE, without POSTFIX and DIRECT. */
-    private static int farSign(int distance) {
-        int n = 30 - Integer.numberOfLeadingZeros(distance + 3);
-        return 16 + 2 * (n - 1) + (distance + 3 >> n & 1);
     }
 }
